@@ -19,6 +19,8 @@ public final class WayBook {
     /** How many sets of twelve ROADS there are. */
     private static final int PLACES = 4096;
     private static final int WORDS = 64;
+    /** Places that differ just in the lowest levels share a word of 64 bits. */
+    private static final int WORD_LEVELS = 6;
 
     private final Net net;
     private final Ways[] made;
@@ -56,7 +58,7 @@ public final class WayBook {
         if (load < 0 || load > MOST_LOAD) {
             return BAD;
         }
-        return net.posts >= MOST_POSTS ? FULL : net.addPost(load);
+        return net.addPost(load);
     }
 
     public int road(int a, int b, int weight) {
@@ -66,7 +68,7 @@ public final class WayBook {
         if (net.areJoined(a, b)) {
             return STATE;
         }
-        return net.roads >= MOST_ROADS ? FULL : net.addRoad(a, b, weight);
+        return net.addRoad(a, b, weight);
     }
 
     public int odds(int road, int e) {
@@ -682,7 +684,7 @@ public final class WayBook {
      * bit 11 - r is ROAD r (its level).
      */
     private static final class Ways {
-        /** Per level below 6: the places within a word that have its bit. */
+        /** Per level of a word: the places within it that have its bit. */
         private static final long[] WITH = {
             0xAAAAAAAAAAAAAAAAL, 0xCCCCCCCCCCCCCCCCL, 0xF0F0F0F0F0F0F0F0L,
             0xFF00FF00FF00FF00L, 0xFFFF0000FFFF0000L, 0xFFFFFFFF00000000L
@@ -790,14 +792,13 @@ public final class WayBook {
             return used;
         }
 
-        /** Places that are no multiples of this have ROADS that are not used. */
-        static int leastBit(int used) {
-            for (int level = 0; level < MOST_ROADS; level++) {
-                if ((used & (1 << level)) != 0) {
-                    return 1 << level;
-                }
+        /** How many levels are below the lowest one of those that are used. */
+        static int levelsBelow(int used) {
+            int below = 0;
+            while (below < MOST_ROADS && (used & (1 << below)) == 0) {
+                below++;
             }
-            return PLACES;
+            return below;
         }
 
         boolean isLike(Ways g) {
@@ -814,7 +815,7 @@ public final class WayBook {
             if (level >= 0 && level < WITH.length) {
                 return WITH[level];
             }
-            return ((word >> (level - 6)) & 1) != 0 ? -1L : 0L;
+            return ((word >> (level - WORD_LEVELS)) & 1) != 0 ? -1L : 0L;
         }
 
         void copy(Ways f) {
@@ -850,10 +851,11 @@ public final class WayBook {
         /** Adds the WAYS of f that lack a level's ROAD, with it. */
         void raise(Ways f, int level) {
             for (int w = 0; w < WORDS; w++) {
-                if (level < 6) {
+                int without = w & ~(1 << (level - WORD_LEVELS));
+                if (level < WORD_LEVELS) {
                     words[w] |= (f.words[w] & ~having(w, level)) << (1 << level);
-                } else if ((w & (1 << (level - 6))) != 0) {
-                    words[w] |= f.words[w ^ (1 << (level - 6))];
+                } else if (without != w) {
+                    words[w] |= f.words[without];
                 }
             }
         }
@@ -861,10 +863,11 @@ public final class WayBook {
         /** Adds the WAYS of f that have a level's ROAD, without it. */
         void lower(Ways f, int level) {
             for (int w = 0; w < WORDS; w++) {
-                if (level < 6) {
+                int with = w | (1 << (level - WORD_LEVELS));
+                if (level < WORD_LEVELS) {
                     words[w] |= (f.words[w] & having(w, level)) >>> (1 << level);
-                } else if ((w & (1 << (level - 6))) == 0) {
-                    words[w] |= f.words[(w ^ (1 << (level - 6))) & (WORDS - 1)];
+                } else if (with != w && with < WORDS) {
+                    words[w] |= f.words[with];
                 }
             }
         }
@@ -913,8 +916,9 @@ public final class WayBook {
             room.copy(f);
             room.spreadUp();
             Arrays.fill(words, 0L);
-            int step = leastBit(f.used());
-            for (int place = 0; place < PLACES; place += step) {
+            int unused = levelsBelow(f.used());
+            for (int n = 0; n < PLACES >> unused; n++) {
+                int place = n << unused;
                 if (!room.holds(PLACES - 1 - place)) {
                     put(place);
                 }
@@ -1051,7 +1055,7 @@ public final class WayBook {
 
         /** Whether no ROAD is left out within a HEAP, and each HEAP's LOADS fit. */
         private boolean isParting(int place, int labels) {
-            for (int road = 0; road < net.roads; road++) {
+            for (int road = 0; road < net.roads && road < MOST_ROADS; road++) {
                 boolean out = (place & Net.placeOf(road)) == 0;
                 if (out && label(labels, net.lesser[road]) == label(labels, net.greater[road])) {
                     return false;
@@ -1071,7 +1075,7 @@ public final class WayBook {
 
         private int loadOf(int heap, int labels) {
             int load = 0;
-            for (int post = 0; post < net.posts; post++) {
+            for (int post = 0; post < net.posts && post < MOST_POSTS; post++) {
                 if (label(labels, post) == heap) {
                     load += net.loads[post];
                 }
@@ -1128,16 +1132,16 @@ public final class WayBook {
         }
 
         private void learn() {
-            for (int b = 0; b < 6; b++) {
+            for (int b = 0; b < WORD_LEVELS; b++) {
                 for (int n = 0; n < 1 << b; n++) {
                     lowSums[(1 << b) + n] = lowSums[n] + adds[b];
-                    highSums[(1 << b) + n] = highSums[n] + adds[b + 6];
+                    highSums[(1 << b) + n] = highSums[n] + adds[b + WORD_LEVELS];
                 }
             }
         }
 
         int of(int place) {
-            return lowSums[place & (WORDS - 1)] + highSums[(place >> 6) & (WORDS - 1)];
+            return lowSums[place & (WORDS - 1)] + highSums[(place >> WORD_LEVELS) & (WORDS - 1)];
         }
 
         /** The place of the WAY with the i-th greatest (or least) SUM; NONE: there is none such. */
@@ -1178,7 +1182,7 @@ public final class WayBook {
         }
     }
 
-    /** Counts for every place at once. */
+    /** Counts for many sets of ROADS at once; those that differ just in ROADS of no WAY are left out. */
     private static final class Tally {
         private final long[] mine = new long[PLACES];
         private final long[] yours = new long[PLACES];
@@ -1188,30 +1192,32 @@ public final class WayBook {
          * two counts; taking off those that lie within less leaves the pairs that make just the set.
          */
         void unite(Ways out, Ways f, Ways g) {
-            int step = Ways.leastBit(f.used() | g.used());
-            for (int place = 0; place < PLACES; place += step) {
-                mine[place] = f.holds(place) ? 1 : 0;
-                yours[place] = g.holds(place) ? 1 : 0;
+            int unused = Ways.levelsBelow(f.used() | g.used());
+            int sets = PLACES >> unused;
+            for (int n = 0; n < sets; n++) {
+                mine[n] = f.holds(n << unused) ? 1 : 0;
+                yours[n] = g.holds(n << unused) ? 1 : 0;
             }
-            addWithin(mine, step, 1);
-            addWithin(yours, step, 1);
-            for (int place = 0; place < PLACES; place += step) {
-                mine[place] *= yours[place];
+            addWithin(mine, sets, 1);
+            addWithin(yours, sets, 1);
+            for (int n = 0; n < sets; n++) {
+                mine[n] *= yours[n];
             }
-            addWithin(mine, step, -1);
+            addWithin(mine, sets, -1);
             out.clear(FAMILY);
-            for (int place = 0; place < PLACES; place += step) {
-                if (mine[place] != 0) {
-                    out.put(place);
+            for (int n = 0; n < sets; n++) {
+                if (mine[n] != 0) {
+                    out.put(n << unused);
                 }
             }
         }
 
-        private static void addWithin(long[] counts, int step, int sign) {
-            for (int bit = step; bit < PLACES; bit <<= 1) {
-                for (int place = 0; place < PLACES && place < counts.length; place += step) {
-                    if ((place & bit) != 0) {
-                        counts[place] += sign * counts[place ^ bit];
+        /** Adds to the count of each set those of all sets within it (takes them off again: sign -1). */
+        private static void addWithin(long[] counts, int sets, int sign) {
+            for (int level = 0; level < MOST_ROADS; level++) {
+                for (int n = 0; n < sets && n < counts.length; n++) {
+                    if ((n & (1 << level)) != 0) {
+                        counts[n] += sign * counts[n ^ (1 << level)];
                     }
                 }
             }
@@ -1220,13 +1226,15 @@ public final class WayBook {
         /** How many of 8 to the 12 a set of enough is there by, one ROAD's odds being e instead of its own. */
         long chanceOf(Ways enough, Net net, int road, int e) {
             int absent = MOST_ROADS - net.roads;
-            for (int n = 0; n < 1 << net.roads && n < PLACES; n++) {
+            int sets = PLACES >> absent;
+            for (int n = 0; n < sets; n++) {
                 mine[n] = enough.holds(n << absent) ? 1 : 0;
             }
             for (int r = net.roads - 1; r >= 0; r--) {
-                int there = r == road ? e : net.eighthsOf(r);
-                for (int n = 0; n < 1 << r && n < PLACES / 2; n++) {
-                    mine[n] = mine[2 * n] * (EIGHT - there) + mine[2 * n + 1] * there;
+                int yes = r == road ? e : net.eighthsOf(r);
+                sets /= 2;
+                for (int n = 0; n < sets; n++) {
+                    mine[n] = mine[2 * n] * (EIGHT - yes) + mine[2 * n + 1] * yes;
                 }
             }
             return mine[0] << (3 * absent);
@@ -1267,8 +1275,11 @@ public final class WayBook {
 
         /** Lists THE BOOK of the WAYS in some words, which are alike in all ROADS below this one. */
         private int over(Ways ways, int road, int word) {
-            if (road >= 6 || word < 0 || word >= WORDS) {
-                return word < 0 || word >= WORDS ? TO_NONE : under(ways.words[word], 6);
+            if (word < 0 || word >= WORDS) {
+                return TO_NONE;
+            }
+            if (road >= WORD_LEVELS) {
+                return under(ways.words[word], road);
             }
             int no = over(ways, road + 1, word);
             int yes = over(ways, road + 1, word + (32 >> road));
@@ -1339,7 +1350,7 @@ public final class WayBook {
         /** 8 times the number of the first ROW that is WRONG, and how; NONE: none is. */
         int firstWrong(Rows ahead) {
             ahead.clear();
-            for (int i = 0; i < size; i++) {
+            for (int i = 0; i < size && i < MOST_ROWS; i++) {
                 int how = wrongness(i, ahead);
                 if (how != 0) {
                     return 8 * i + how;

@@ -16,6 +16,7 @@ public final class FamiliesTest {
         joinSets();
         joinProducts();
         joinHolding();
+        joinFar();
         thin();
         thinHitting();
         by();
@@ -103,6 +104,8 @@ public final class FamiliesTest {
         two.road(0, 1, 1);
         DUE.ways("there and back is none", two, two.rounds(false));
         DUE.ways("through both is none", two, two.rounds(true));
+        WayBook three = Nets.complete(3);
+        DUE.ways("through three", three, three.rounds(true), 7);
         WayBook none = new WayBook();
         DUE.ways("without posts", none, none.rounds(false));
         DUE.ways("through no posts", none, none.rounds(true));
@@ -193,6 +196,7 @@ public final class FamiliesTest {
         DUE.ways("0 .. 1 at 2", b, b.degrees(0, 2, 0, 1), 0, 4, 2, 1, 5, 3);
         DUE.is("any", b.count(b.degrees(0, 2, MIN, MAX)), 8);
         DUE.ways("low above high", b, b.degrees(0, 0, 2, 1));
+        DUE.ways("of one way", b, b.degrees(b.tell(2), 0, 0, 9), 2);
         DUE.is("no such family", b.degrees(20, 0, 0, 9), BAD);
         DUE.is("family -1", b.degrees(-1, 0, 0, 9), BAD);
         DUE.is("no such post", b.degrees(0, 3, 0, 9), BAD);
@@ -202,6 +206,14 @@ public final class FamiliesTest {
         DUE.is("of trees it is a family", b.told(b.degrees(trees, 0, 0, 9), 0), 0);
         b.close();
         DUE.ways("a closed road is at no post", b, b.degrees(0, 2, 1, 1), 2, 6, 3, 7);
+        WayBook c = Nets.cube();
+        int all = c.all(4095);
+        for (int post = 0; post < 8; post++) {
+            DUE.is("all three at " + post, c.count(c.degrees(all, post, 3, 3)), 512);
+            DUE.is("none at " + post, c.count(c.degrees(all, post, 0, 0)), 512);
+            c.drop();
+            c.drop();
+        }
     }
 
     private static void joinSets() {
@@ -255,6 +267,36 @@ public final class FamiliesTest {
         DUE.ways("roads that there are not", d, some, 3073);
         DUE.ways("over, with such", d, d.join(4, some, d.tell(1)), 3072);
         DUE.ways("shares one", d, d.join(4, d.all(1), d.all(1)), 0);
+        WayBook e = Nets.complete(3);
+        int all = e.all(7);
+        DUE.ways("left of all", e, e.join(5, all, e.tell(1)), 0, 4, 2, 6);
+        int few = Nets.family(e, 1, 2, 3, 5, 6, 7);
+        DUE.ways("left of few", e, e.join(5, few, Nets.family(e, 1, 2)), 3, 7);
+    }
+
+    /** The ROADS 0 and 11 are the ends of THE ORDER. */
+    private static void joinFar() {
+        DUE.promise(14, "join with all twelve roads");
+        WayBook b = Nets.cube();
+        int all = b.all(4095);
+        int last = b.tell(4095);
+        int far = Nets.family(b, 2048, 1);
+        DUE.ways("unions", b, b.join(3, far, Nets.family(b, 2048, 2)), 2048, 2050, 2049, 3);
+        DUE.ways("unions with the greatest", b, b.join(3, all, last), 4095);
+        DUE.is("unions of all", b.same(b.join(3, all, all), all), 1);
+        int over = b.join(4, all, b.tell(2048));
+        DUE.is("all over 11", b.count(over), 2048);
+        DUE.is("the greatest of them", b.has(over, 2047), 1);
+        DUE.is("none with 11", b.often(over, 11), 0);
+        int one = Nets.family(b, 2049, 2050, 3);
+        DUE.ways("some over 11", b, b.join(4, one, b.tell(2048)), 2, 1);
+        DUE.ways("some over 0", b, b.join(4, one, b.tell(1)), 2048, 2);
+        DUE.ways("left over 11", b, b.join(5, one, b.tell(2048)), 3);
+        WayBook c = Nets.cube();
+        all = c.all(4095);
+        DUE.is("all over all", c.count(c.join(4, all, all)), 1);
+        DUE.is("that hold 11", c.count(c.join(6, all, c.tell(2048))), 2048);
+        DUE.ways("held by 0 and 11", c, c.join(7, all, c.tell(2049)), 0, 2048, 1, 2049);
     }
 
     private static void joinHolding() {
@@ -286,6 +328,9 @@ public final class FamiliesTest {
         DUE.ways("none, least", b, b.thin(0, b.tell(-1)));
         DUE.ways("bare, greatest", b, b.thin(1, b.tell(0)), 0);
         WayBook c = Nets.cube();
+        int apart = Nets.family(c, 1, 7, 15, 2, 58);
+        DUE.ways("least, further apart", c, c.thin(0, apart), 2, 1);
+        DUE.ways("greatest, further apart", c, c.thin(1, apart), 58, 15);
         int all = c.all(4095);
         DUE.ways("all, least", c, c.thin(0, all), 0);
         DUE.ways("all, greatest", c, c.thin(1, all), 4095);
@@ -313,6 +358,10 @@ public final class FamiliesTest {
         DUE.ways("least ones are told still", k, k.thin(0, closed), 32);
         DUE.is("a road that never was", k.thin(2, k.by(2, open, 11)), STATE);
         DUE.is("bad how, closed", k.thin(3, closed), BAD);
+        WayBook c = Nets.cube();
+        DUE.ways("hits with 11", c, c.thin(2, Nets.family(c, 2049, 2)), 2050, 3);
+        DUE.ways("each of twelve", c, c.thin(2, c.tell(4095)), 2048, 1024, 512, 256, 128, 64, 32, 16, 8, 4, 2, 1);
+        DUE.ways("all of twelve", c, c.thin(2, c.thin(2, c.tell(4095))), 4095);
     }
 
     private static void by() {
@@ -361,6 +410,7 @@ public final class FamiliesTest {
         DUE.ways("-49 .. -43", b, b.within(0, -49, -43), 5);
         DUE.ways("57", b, b.within(0, 57, 57), 6);
         DUE.ways("low above high", b, b.within(0, 7, 0));
+        DUE.ways("of one way", b, b.within(b.tell(2), -99, 99), 2);
         DUE.is("any", b.count(b.within(0, MIN, MAX)), 8);
         DUE.is("no such family", b.within(29, 0, 0), BAD);
         DUE.is("family -1", b.within(-1, 0, 0), BAD);

@@ -52,8 +52,10 @@ final class Nets {
         int f = book.tell(-1);
         for (int mask : masks) {
             int one = book.tell(mask);
-            int joined = book.join(1, f, one);
-            f = joined;
+            f = book.join(1, f, one);
+            if (f < 0) {
+                throw new IllegalStateException("the book is full: the test needs another one");
+            }
         }
         return f;
     }
