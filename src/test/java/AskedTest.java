@@ -84,13 +84,7 @@ public final class AskedTest {
         DUE.is("closed weighs 0", b.total(0), 6);
         b.road(1, 2, -50);
         DUE.is("a new one has its own", b.total(0), -94);
-        WayBook c = Nets.posts(8);
-        for (int p = 1; p < 8; p++) {
-            c.road(0, p, 50);
-        }
-        for (int p = 2; p < 7; p++) {
-            c.road(1, p, 50);
-        }
+        WayBook c = Nets.stars(50);
         DUE.is("the greatest", c.total(c.all(4095)), 50L * 12 * 2048);
     }
 
@@ -213,16 +207,8 @@ public final class AskedTest {
     }
 
     private static void bestFarthest() {
-        WayBook c = Nets.posts(8);
-        WayBook d = Nets.posts(8);
-        for (int p = 1; p < 8; p++) {
-            c.road(0, p, 50);
-            d.road(0, p, -50);
-        }
-        for (int p = 2; p < 7; p++) {
-            c.road(1, p, 50);
-            d.road(1, p, -50);
-        }
+        WayBook c = Nets.stars(50);
+        WayBook d = Nets.stars(-50);
         c.all(4095);
         d.all(4095);
         DUE.is("600", c.best(0, 0, 0), 4095);

@@ -275,6 +275,12 @@ final class MadeEdges {
         e.is("a ring's three and one of three", bow.has(two, 7 | 16), 1);
         e.is("a ring's three and two of three", bow.has(two, 7 | 24), 0);
         e.is("two of a ring's three and one of three", bow.has(two, 6 | 16), 0);
+        WayBook cube = Nets.cube();
+        e.ways("twelve of twelve", cube, cube.parts(1, 0, 99), 4095);
+        for (WayBook b : Nets.ringsOfFour()) {
+            e.ways("four of four, in any order", b, b.parts(1, 0, 99), 15);
+            e.is("one or two of four, in any order", b.count(b.parts(2, 0, 99)), 4 + 2);
+        }
 
         e.promise(12, "BAD: heaps not 1 .. how many POSTS;");
         for (int n = 0; n <= 8; n++) {
@@ -314,6 +320,22 @@ final class MadeEdges {
         e.ways("each of two, 2 .. 3", b, b.parts(2, 2, 3), 0);
         e.ways("not the greater one", b, b.parts(2, 2, 2));
         e.ways("not the lesser one", b, b.parts(2, 3, 3));
+        for (WayBook ring : Nets.ringsOfFour()) {
+            e.is("each of two of a ring, 5 .. 5", ring.count(ring.parts(2, 5, 5)), 1);
+            e.is("6 .. 5", ring.count(ring.parts(2, 6, 5)), 0);
+            e.is("4 .. 6", ring.count(ring.parts(2, 4, 6)), 2);
+            e.is("3 .. 7", ring.count(ring.parts(2, 3, 7)), 4);
+            e.is("2 .. 8", ring.count(ring.parts(2, 2, 8)), 5);
+            e.is("1 .. 9", ring.count(ring.parts(2, 1, 9)), 6);
+            e.is("1 .. 8", ring.count(ring.parts(2, 1, 8)), 5);
+            e.is("each of three, 3 .. 4", ring.count(ring.parts(3, 3, 4)), 1);
+            e.is("3 .. 3", ring.count(ring.parts(3, 3, 3)), 0);
+            e.is("4 .. 4", ring.count(ring.parts(3, 4, 4)), 0);
+            e.is("2 .. 5", ring.count(ring.parts(3, 2, 5)), 2);
+            e.is("1 .. 5", ring.count(ring.parts(3, 1, 5)), 3);
+            e.is("1 .. 6", ring.count(ring.parts(3, 1, 6)), 3);
+            e.is("1 .. 7", ring.count(ring.parts(3, 1, 7)), 4);
+        }
         WayBook most = loaded(99, 99, 99, 99, 99, 99, 99, 99);
         e.ways("792 is the most", most, most.parts(1, 792, 792), 127);
         e.ways("not 793", most, most.parts(1, 793, MAX));
@@ -341,6 +363,12 @@ final class MadeEdges {
         e.ways("the last post", b, b.degrees(f, 2, 2, 2), 6, 7);
         e.ways("of none", b, b.degrees(b.tell(-1), 0, MIN, MAX));
         e.ways("of the bare way", b, b.degrees(b.tell(0), 0, 0, 0), 0);
+        WayBook all = cubeWithAll();
+        for (int post = 0; post < 8; post++) {
+            int three = all.degrees(0, post, 3, 3);
+            e.is("three at post " + post + " of the cube", all.count(three), 512);
+            e.is("the last way of all", all.has(three, 4095), 1);
+        }
         int before = b.tell(5);
         b.close();
         e.ways("a road that went is at no post", b, b.degrees(before, 0, 1, 1), 5);

@@ -302,6 +302,9 @@ final class NetEdges {
         e.is("a ring with one more road", c.has(trees, 0b001111), 0);
         e.is("a ring that leaves a post out", c.has(c.trees(2), 0b001011), 0);
         e.is("no ring", c.has(trees, 0b000111), 1);
+        for (WayBook b : Nets.ringsOfFour()) {
+            e.ways("a ring of four, its roads in any order", b, b.trees(1), 14, 13, 11, 7);
+        }
     }
 
     // ---- promises

@@ -1,3 +1,6 @@
+import java.util.ArrayList;
+import java.util.List;
+
 /** Nets that several tests use. */
 final class Nets {
     private Nets() {
@@ -41,6 +44,23 @@ final class Nets {
             book.road(p, (p + 1) % n, 1);
         }
         return book;
+    }
+
+    /** Rings of POSTS 0, 1, 2, 3 with LOADS 1, 2, 3, 4, their ROADS made in each of the 24 orders. */
+    static List<WayBook> ringsOfFour() {
+        List<WayBook> rings = new ArrayList<>();
+        for (int order = 0; order < 256; order++) {
+            WayBook book = posts(4);
+            int made = 0;
+            for (int i = 0; i < 4; i++) {
+                int p = order >> 2 * i & 3;
+                made += book.road(p, (p + 1) % 4, 0) >= 0 ? 1 : 0;
+            }
+            if (made == 4) {
+                rings.add(book);
+            }
+        }
+        return rings;
     }
 
     /** The cube: 8 POSTS, 12 ROADS, between POSTS whose numbers differ in one bit. */

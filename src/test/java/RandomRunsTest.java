@@ -219,7 +219,8 @@ public final class RandomRunsTest {
         return answer == due;
     }
 
-    private static long answer(Object book, String name, int[] x) {
+    /** What a call of this name answers, on WayBook or on PlainBook. */
+    static long answer(Object book, String name, int... x) {
         for (Method call : book.getClass().getDeclaredMethods()) {
             if (call.getName().equals(name) && !Modifier.isPrivate(call.getModifiers())) {
                 Class<?>[] types = call.getParameterTypes();

@@ -13,6 +13,7 @@ final class RowEdges {
         noneAndAll(e);
         leastRoad(e);
         alikeIsOne(e);
+        greatBook(e);
         counts(e);
         numbers(e);
         noSideFirst(e);
@@ -85,6 +86,74 @@ final class RowEdges {
         e.is("by no and by yes to one", b.told(Nets.family(b, 4, 5), 1), 2);
         WayBook c = Nets.complete(5);
         e.is("the trees of five posts", c.told(c.trees(1), 1), 49);
+    }
+
+    private static final int[][] GREAT_ROADS = {
+        {1, 6, 5}, {2, 5, 9}, {7, 3, 43}, {7, 4, 2}, {6, 5, -27}, {2, 1, 31},
+        {0, 6, -46}, {2, 4, 27}, {0, 4, 15}, {6, 7, -16}, {2, 3, 5}, {7, 5, -25}
+    };
+    private static final String GREAT_CALLS = "all 4095, tell -1, within 0 143 163, join 1 1 2, within 0 -80 -57, "
+        + "join 1 3 4, within 0 -15 -1, join 1 5 6, within 0 34 103, join 1 7 8, by 2 9 4, join 1 9 10, join 0 9 10, "
+        + "join 2 11 12, by 2 9 8, join 1 13 14, join 0 13 14, join 2 15 16, by 2 17 2, join 1 17 18, join 0 17 18, "
+        + "join 2 19 20, by 2 21 5, join 1 21 22, join 0 21 22, join 2 23 24, by 2 9 11, join 1 25 26, join 0 25 26, "
+        + "join 2 27 28";
+    private static final int GREAT = 29;
+    private static final int ROWS_A_BOOK = 110;
+
+    /** Makes FAMILY 29, a tangle of 737 KNOTS (765 are the most that any could have), in some fifty calls. */
+    private static <B> B great(B book) {
+        for (int p = 0; p < 8; p++) {
+            RandomRunsTest.answer(book, "post", 0);
+        }
+        for (int[] road : GREAT_ROADS) {
+            RandomRunsTest.answer(book, "road", road);
+        }
+        for (String call : GREAT_CALLS.split(", ")) {
+            String[] words = call.split(" ");
+            int[] numbers = new int[words.length - 1];
+            for (int i = 0; i < numbers.length; i++) {
+                numbers[i] = Integer.parseInt(words[i + 1]);
+            }
+            RandomRunsTest.answer(book, words[0], numbers);
+        }
+        RandomRunsTest.answer(book, "write", GREAT);
+        return book;
+    }
+
+    /** All ROWS are as PlainBook has them; no book is asked for more of them than its 512 calls can tell. */
+    private static void greatBook(Edge e) {
+        e.terms(2, "KNOTS of a BOOK: it and all to which it leads, those alike (of the same WAYS) being one.");
+        PlainBook plain = great(new PlainBook());
+        WayBook b = great(new WayBook());
+        e.is("knots", b.told(GREAT, 1), 737);
+        e.is("rows", b.there(3), plain.there(3));
+        e.is("they are its own", b.check(GREAT), -1);
+        for (int i = 0; i < 737; i++) {
+            if (i % ROWS_A_BOOK == 0) {
+                b = great(new WayBook());
+            }
+            for (int what = 0; what < 4; what++) {
+                e.is("row " + i + ", " + what, b.row(i, what), plain.row(i, what));
+            }
+        }
+        e.is("row 737", b.row(737, 0), BAD);
+        e.is("turned", b.turned(GREAT, 5), plain.turned(GREAT, 5));
+    }
+
+    /** WayBook looks rows up by a mark that these two ROADS, no 33 and yes 34 share, as few others do. */
+    private static void likeMarks(Edge e) {
+        int[][] roads = {{1, 0}, {0, 1}, {0, 0}, {1, 1}};
+        for (int[] two : roads) {
+            WayBook b = great(new WayBook());
+            int count = b.row(33, COUNT) + b.row(34, COUNT);
+            for (int i = 0; i < 2; i++) {
+                b.forge(735 + i, ROAD, two[i]);
+                b.forge(735 + i, NO, 33);
+                b.forge(735 + i, YES, 34);
+                b.forge(735 + i, COUNT, count);
+            }
+            e.is("among many, roads " + two[0] + " and " + two[1], b.check(GREAT), two[0] == two[1] ? 8 * 736 + 4 : -3);
+        }
     }
 
     private static void counts(Edge e) {
@@ -242,6 +311,7 @@ final class RowEdges {
 
     private static void wrongTwice(Edge e) {
         e.terms(2, "4 a ROW ahead of it has the same ROAD, no and yes;");
+        likeMarks(e);
         third(e, "all three", 20, 3, -2, 0, 3);
         third(e, "COUNT is not asked", 20, 3, -2, 0, 9);
         third(e, "one road more", -3, 4, -2, 0, 3);
