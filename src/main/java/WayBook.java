@@ -854,7 +854,7 @@ public final class WayBook {
                 int without = w & ~(1 << (level - WORD_LEVELS));
                 if (level < WORD_LEVELS) {
                     words[w] |= (f.words[w] & ~having(w, level)) << (1 << level);
-                } else if (without != w) {
+                } else if (without >= 0 && without < w) {
                     words[w] |= f.words[without];
                 }
             }
@@ -866,7 +866,7 @@ public final class WayBook {
                 int with = w | (1 << (level - WORD_LEVELS));
                 if (level < WORD_LEVELS) {
                     words[w] |= (f.words[w] & having(w, level)) >>> (1 << level);
-                } else if (with != w && with < WORDS) {
+                } else if (with > w && with < WORDS) {
                     words[w] |= f.words[with];
                 }
             }
@@ -1194,18 +1194,18 @@ public final class WayBook {
         void unite(Ways out, Ways f, Ways g) {
             int unused = Ways.levelsBelow(f.used() | g.used());
             int sets = PLACES >> unused;
-            for (int n = 0; n < sets; n++) {
+            for (int n = 0; n < sets && n < PLACES; n++) {
                 mine[n] = f.holds(n << unused) ? 1 : 0;
                 yours[n] = g.holds(n << unused) ? 1 : 0;
             }
             addWithin(mine, sets, 1);
             addWithin(yours, sets, 1);
-            for (int n = 0; n < sets; n++) {
+            for (int n = 0; n < sets && n < PLACES; n++) {
                 mine[n] *= yours[n];
             }
             addWithin(mine, sets, -1);
             out.clear(FAMILY);
-            for (int n = 0; n < sets; n++) {
+            for (int n = 0; n < sets && n < PLACES; n++) {
                 if (mine[n] != 0) {
                     out.put(n << unused);
                 }
@@ -1227,13 +1227,13 @@ public final class WayBook {
         long chanceOf(Ways enough, Net net, int road, int e) {
             int absent = MOST_ROADS - net.roads;
             int sets = PLACES >> absent;
-            for (int n = 0; n < sets; n++) {
+            for (int n = 0; n < sets && n < PLACES; n++) {
                 mine[n] = enough.holds(n << absent) ? 1 : 0;
             }
             for (int r = net.roads - 1; r >= 0; r--) {
                 int yes = r == road ? e : net.eighthsOf(r);
                 sets /= 2;
-                for (int n = 0; n < sets; n++) {
+                for (int n = 0; n < sets && n < PLACES / 2; n++) {
                     mine[n] = mine[2 * n] * (EIGHT - yes) + mine[2 * n + 1] * yes;
                 }
             }
