@@ -18,57 +18,13 @@ import java.util.regex.Pattern;
 /** The public face is the document's; the program's text keeps to LANGUAGE.md where a text can show it. */
 public final class FaceTest {
     private static final Path PROGRAM = Path.of("src/main/java/WayBook.java");
-    /** The document's methods: what each answers, its name, what it takes. */
-    private static final String FACE = """
-        int post[int]
-        int road[int, int, int]
-        int odds[int, int]
-        int roadOf[int, int]
-        int tell[int]
-        int all[int]
-        int paths[int, int, boolean]
-        int rounds[boolean]
-        int trees[int]
-        int pairs[boolean]
-        int parts[int, int, int]
-        int degrees[int, int, int, int]
-        int join[int, int, int]
-        int thin[int, int]
-        int by[int, int, int]
-        int within[int, int, int]
-        int drop[]
-        int close[]
-        int count[int]
-        int told[int, int]
-        long total[int]
-        int often[int, int]
-        int has[int, int]
-        int way[int, int]
-        int rank[int, int]
-        int best[int, int, int]
-        int draw[int, int]
-        int same[int, int]
-        long chance[int]
-        long matters[int, int]
-        int turned[int, int]
-        int write[int]
-        int row[int, int]
-        int forge[int, int, int]
-        int check[int]
-        int sheet[int, int, int]
-        int cell[int, int, int]
-        int lay[int, int, int]
-        int shelf[int, int, int]
-        int taken[int, int]
-        int act[int, int, int]
-        int trace[int]
-        int there[int]
-        """;
+    private static final Path DOCUMENT = Path.of("../shared/DOC.md");
     private static int wrong;
 
-    public static void main(String[] args) throws IOException {
-        face();
-        own();
+    public static void main(String[] args) throws IOException, IllegalAccessException {
+        String document = Files.readString(DOCUMENT, StandardCharsets.UTF_8);
+        face(document);
+        own(document);
         text(Files.readString(PROGRAM, StandardCharsets.UTF_8));
         System.out.println("FaceTest: " + wrong + " wrong");
         if (wrong != 0) {
@@ -83,15 +39,23 @@ public final class FaceTest {
         }
     }
 
-    private static Set<String> told() {
+    /** The document's methods, as reflection writes them: what each answers, its name, what it takes. */
+    private static Set<String> told(String document) {
         Set<String> told = new TreeSet<>();
-        for (String line : FACE.split("\n")) {
-            told.add(line);
+        Matcher line = Pattern.compile("(?m)^    public (int|long) (\\w+)\\((.*)\\);$").matcher(document);
+        while (line.find()) {
+            List<String> types = new ArrayList<>();
+            for (String taken : line.group(3).split(", ")) {
+                if (!taken.isEmpty()) {
+                    types.add(taken.split(" ")[0]);
+                }
+            }
+            told.add(line.group(1) + " " + line.group(2) + types);
         }
         return told;
     }
 
-    private static void face() {
+    private static void face(String document) {
         Class<WayBook> book = WayBook.class;
         claim(Modifier.isPublic(book.getModifiers()) && Modifier.isFinal(book.getModifiers()), "public final class");
         Set<String> methods = new TreeSet<>();
@@ -111,7 +75,7 @@ public final class FaceTest {
             }
         }
         claim(methods.size() == 43, "43 methods, not " + methods.size());
-        claim(methods.equals(told()), "the methods are " + methods + ", the document's " + told());
+        claim(methods.equals(told(document)), "the methods are " + methods + ", the document's " + told(document));
         for (Class<?> inside : book.getDeclaredClasses()) {
             for (Method method : inside.getDeclaredMethods()) {
                 hidden.add(method.getName());
@@ -124,21 +88,19 @@ public final class FaceTest {
             && constructors[0].getParameterCount() == 0, "one public constructor");
     }
 
-    private static void own() {
-        Set<String> constants = new TreeSet<>();
+    private static void own(String document) throws IllegalAccessException {
+        List<String> constants = new ArrayList<>();
         for (Field field : WayBook.class.getDeclaredFields()) {
             int how = field.getModifiers();
             if (Modifier.isPrivate(how)) {
                 claim(!Modifier.isStatic(how) || Modifier.isFinal(how), "static, not final: " + field);
             } else {
-                constants.add(Modifier.toString(how) + " " + field.getType() + " " + field.getName());
+                claim(Modifier.toString(how).equals("public static final"), field + " is public static final");
+                constants.add(field.getName() + " = " + field.getInt(null));
             }
         }
-        Set<String> due = new TreeSet<>();
-        for (String name : new String[] {"NONE", "BAD", "STATE", "FULL"}) {
-            due.add("public static final int " + name);
-        }
-        claim(constants.equals(due), "the constants are " + constants);
+        String due = "    public static final int " + String.join(", ", constants) + ";\n";
+        claim(document.contains(due), "the constants are " + constants);
         Class<?>[] inside = WayBook.class.getDeclaredClasses();
         claim(inside.length < 12, "at most some twelve classes");
         for (Class<?> one : inside) {
